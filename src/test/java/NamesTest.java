@@ -1,0 +1,104 @@
+/** Promises 9 and 10: names and spelt. */
+public final class NamesTest {
+    private static final Checks CHECKS = new Checks();
+
+    public static void main(String[] args) {
+        order();
+        onlyBeforeTheFault();
+        longestName();
+        noSuchByte();
+        mostNames();
+        againBringsNoNames();
+        CHECKS.end();
+    }
+
+    private static void names(TermReader reader, String... want) {
+        CHECKS.due("names", reader.names(), want.length);
+        for (int i = 0; i < want.length; i++) {
+            CHECKS.due("name " + i, Checks.spelt(reader, i), want[i]);
+        }
+    }
+
+    private static void order() {
+        TermReader reader = new TermReader();
+        Checks.read(reader, 0, "data n (x y: A): B | z: n -> rec R Prop | s: x.");
+        names(reader, "n", "x", "y", "A", "B", "z", "R", "s");
+        Checks.read(reader, 1, "norm fun B: C => let d: e' := f in (n: g_).");
+        names(reader, "n", "x", "y", "A", "B", "z", "R", "s", "C", "d", "e'", "f", "g_");
+        CHECKS.due("an old name", reader.node(1, 4, 2), 4);
+        CHECKS.due("a new name", reader.node(1, 5, 2), 8);
+        Checks.read(reader, 0, "");
+        CHECKS.due("names stay without a tree", reader.names(), 13);
+    }
+
+    private static void onlyBeforeTheFault() {
+        TermReader reader = new TermReader();
+        Checks.read(reader, 0, "norm a. norm b c # d. norm e.");
+        names(reader, "a");
+        Checks.read(reader, 0, "norm c. norm b");
+        names(reader, "a", "c");
+        Checks.read(reader, 0, "norm b b a c d c.");
+        names(reader, "a", "c", "b", "d");
+        CHECKS.due("read(2, 0)", reader.read(2, 0), -1);
+        names(reader, "a", "c", "b", "d");
+    }
+
+    private static void longestName() {
+        TermReader reader = new TermReader();
+        String name = "Z'_9".repeat(10);
+        Checks.read(reader, 0, "norm " + name + ". norm " + name + "Z.");
+        CHECKS.due("name of 40 bytes", Checks.spelt(reader, 0), name);
+        CHECKS.due("its last byte", reader.spelt(0, 39), (int) '9');
+        CHECKS.due("none behind it", reader.spelt(0, 40), -1);
+        CHECKS.due("no name of 41 bytes", reader.names(), 1);
+        CHECKS.due("it is the fault", reader.fault(), 52);
+    }
+
+    private static void noSuchByte() {
+        TermReader reader = new TermReader();
+        Checks.read(reader, 0, "norm ab c.");
+        int[] far = {Integer.MIN_VALUE, -1, 2, 3, Integer.MAX_VALUE};
+        for (int i : far) {
+            CHECKS.due("spelt(0, " + i + ")", reader.spelt(0, i), -1);
+            CHECKS.due("spelt(" + i + ", 0)", reader.spelt(i, 0), -1);
+        }
+        CHECKS.due("spelt(0, 1)", reader.spelt(0, 1), (int) 'b');
+        CHECKS.due("spelt(1, 1)", reader.spelt(1, 1), -1);
+    }
+
+    /** As many names as 512 calls can bring, and nearly as many bytes. */
+    private static void mostNames() {
+        String firsts = "abcdefghijklmnopqrstuvwxyzABCDEFGHIJKLMNOPQRSTUVWXYZ_";
+        String others = firsts + "0123456789'";
+        TermReader reader = new TermReader();
+        int known = 0;
+        int next = 0;
+        for (int texts = 0; texts < 3; texts++) {
+            StringBuilder text = new StringBuilder("norm");
+            for (; text.length() < 3336 && next < firsts.length() * others.length(); next++) {
+                String name = "" + firsts.charAt(next % 53) + others.charAt(next / 53);
+                if (!name.equals("in")) {
+                    text.append(' ').append(name);
+                    known++;
+                }
+            }
+            CHECKS.due("read many", Checks.read(reader, 0, text.append('.').toString()), 1);
+            CHECKS.due("names", reader.names(), known);
+        }
+        CHECKS.due("a last one", reader.node(0, reader.nodes(0) - 1, 2), known - 1);
+    }
+
+    private static void againBringsNoNames() {
+        TermReader reader = new TermReader();
+        Checks.read(reader, 0, "norm ab Type.");
+        reader.write(0, 0);
+        reader.again();
+        CHECKS.due("read again", reader.read(1, 15), 1);
+        reader.write(0, 3);
+        CHECKS.due("again a name alone", reader.again(), 2);
+        CHECKS.due("feed behind it", Checks.feed(reader, "c. norm d."), 22);
+        CHECKS.due("read what is no declaration", reader.read(1, 12), 0);
+        CHECKS.due("fault", reader.fault(), 0);
+        names(reader, "ab");
+    }
+}
