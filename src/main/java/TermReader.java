@@ -427,7 +427,7 @@ public final class TermReader {
         }
     }
 
-    /** The tokens of a text, up to its end or to the first place where there is none. */
+    /** The tokens of a text, up to its end or to the first place where there is none, and the next one. */
     private static final class Tokens {
         private final int[] kinds;
         private final int[] places;
@@ -435,33 +435,43 @@ public final class TermReader {
         /** Of a name its length, of a sort its value. */
         private final int[] values;
         private int count;
+        private int next;
 
         Tokens() {
             kinds = new int[MOST_TOKENS];
             places = new int[MOST_TOKENS];
             values = new int[MOST_TOKENS];
             count = 0;
+            next = 0;
         }
 
-        int kindAt(int i) {
-            return i >= 0 && i < count ? kinds[i] : Token.BAD;
+        int nextKind() {
+            return next < count ? kinds[next] : Token.BAD;
         }
 
-        int placeAt(int i) {
-            return i >= 0 && i < count ? places[i] : NONE;
+        int nextPlace() {
+            return next < count ? places[next] : NONE;
         }
 
-        int valueAt(int i) {
-            return i >= 0 && i < count ? values[i] : 0;
+        int nextValue() {
+            return next < count ? values[next] : 0;
+        }
+
+        void advance() {
+            if (next < count) {
+                next++;
+            }
         }
 
         void scan(Bytes text, int end) {
             count = 0;
-            int next = 0;
+            next = 0;
+            int at = 0;
             boolean more = true;
             for (int i = 0; i < MOST_TOKENS && more; i++) {
-                int place = behindBlanks(text, next, end);
-                next = scanToken(text, place, end);
+                at = behindBlanks(text, at, end);
+                int here = at < end ? text.at(at) : NONE;
+                at = isLetter(here) ? scanWord(text, at, end) : scanSign(text, at, end);
                 more = kinds[i] != Token.END && kinds[i] != Token.BAD;
             }
         }
@@ -517,19 +527,16 @@ public final class TermReader {
             return from;
         }
 
-        /** Adds the token at a place, and answers where it ends. */
-        private int scanToken(Bytes text, int at, int end) {
+        /** Adds the sign at a place, or the end, and answers where it ends. */
+        private int scanSign(Bytes text, int at, int end) {
             if (at >= end) {
                 return addToken(Token.END, end, 0, 0);
             }
-            int here = text.at(at);
-            if (isLetter(here)) {
-                return scanWord(text, at, end);
-            }
-            int sign = Token.signOf(here, at + 1 < end ? text.at(at + 1) : NONE);
+            int sign = Token.signOf(text.at(at), at + 1 < end ? text.at(at + 1) : NONE);
             return addToken(sign, at, 0, Token.spelling(sign).length());
         }
 
+        /** Adds the word or name at a place, and answers where it ends. */
         private int scanWord(Bytes text, int at, int end) {
             int behind = at + 1;
             while (behind < end && isInName(text.at(behind))) {
@@ -690,8 +697,11 @@ public final class TermReader {
         }
 
         boolean isLastPart(int k) {
-            int whole = wholeOf(k);
-            return has(whole) && k + sizes[k] == whole + sizes[whole];
+            if (!has(k) || wholes[k] < 0) {
+                return false;
+            }
+            int whole = wholes[k];
+            return k + sizes[k] == whole + sizes[whole];
         }
 
         /** Gives the names their numbers, which have had their lengths as values till then. */
@@ -822,7 +832,6 @@ public final class TermReader {
         private final int[] begunFrom;
         private int begunCount;
         private int depth;
-        private int next;
 
         Parser() {
             tokens = new Tokens();
@@ -836,21 +845,16 @@ public final class TermReader {
         int parse(Bytes text, int end) {
             tokens.scan(text, end);
             growth.cutTo(0);
-            next = 0;
             int fault = NONE;
-            for (int i = 0; i < MOST_TOKENS && fault == NONE && here() != Token.END; i++) {
+            for (int i = 0; i < MOST_TOKENS && fault == NONE && tokens.nextKind() != Token.END; i++) {
                 int kept = growth.count;
                 if (!takeDeclaration()) {
-                    fault = tokens.placeAt(next);
+                    fault = tokens.nextPlace();
                     growth.cutTo(kept);
                 }
             }
             growth.add(Kind.TEXT, NONE, 0, 0);
             return fault;
-        }
-
-        private int here() {
-            return tokens.kindAt(next);
         }
 
         /** Whether there is a declaration; if not, the next token is the one that does not fit. */
@@ -874,12 +878,12 @@ public final class TermReader {
                 return takeToken(rule);
             }
             switch (rule) {
-                case Rule.GROUPS: return here() != Token.OPEN || await(Rule.GROUPS_ROW);
+                case Rule.GROUPS: return isNot(Token.OPEN) || await(Rule.GROUPS_ROW);
                 case Rule.GROUP: return begin(Rule.GROUP_ROW);
                 case Rule.BINDERS: return expandBinders();
                 case Rule.BINDER: return takeLeaf(Token.NAME, Kind.BINDER);
-                case Rule.MORE_BINDERS: return here() != Token.NAME || await(Rule.MORE_BINDERS_ROW);
-                case Rule.CONSTRUCTORS: return here() != Token.BAR || begin(Rule.CONSTRUCTORS_ROW);
+                case Rule.MORE_BINDERS: return isNot(Token.NAME) || await(Rule.MORE_BINDERS_ROW);
+                case Rule.CONSTRUCTORS: return isNot(Token.BAR) || begin(Rule.CONSTRUCTORS_ROW);
                 case Rule.TYPE_OR_NOTHING: return expandTypeOrNothing();
                 case Rule.TERM: return expandTerm();
                 case Rule.DEEPER_TERM: return goDeeper();
@@ -896,7 +900,7 @@ public final class TermReader {
         }
 
         private boolean expandDeclaration() {
-            switch (here()) {
+            switch (tokens.nextKind()) {
                 case Token.AXIOM: return begin(Rule.AXIOM_ROW);
                 case Token.DEF: return begin(Rule.DEF_ROW);
                 case Token.LEMMA: return begin(Rule.LEMMA_ROW);
@@ -908,18 +912,18 @@ public final class TermReader {
         }
 
         private boolean expandBinders() {
-            return here() == Token.NAME ? begin(Rule.BARE_GROUP_ROW) : await(Rule.GROUPS_ROW);
+            return isNot(Token.NAME) ? await(Rule.GROUPS_ROW) : begin(Rule.BARE_GROUP_ROW);
         }
 
         private boolean expandTypeOrNothing() {
-            if (here() == Token.COLON) {
-                return await(Rule.TYPE_ROW);
+            if (isNot(Token.COLON)) {
+                return growth.add(Kind.NOTHING, NONE, 0, growth.count);
             }
-            return growth.add(Kind.NOTHING, NONE, 0, growth.count);
+            return await(Rule.TYPE_ROW);
         }
 
         private boolean expandTerm() {
-            switch (here()) {
+            switch (tokens.nextKind()) {
                 case Token.FUN: return begin(Rule.FUN_ROW);
                 case Token.ALL: return begin(Rule.ALL_ROW);
                 case Token.LET: return begin(Rule.LET_ROW);
@@ -928,7 +932,7 @@ public final class TermReader {
         }
 
         private boolean expandAtom() {
-            switch (here()) {
+            switch (tokens.nextKind()) {
                 case Token.NAME: return takeLeaf(Token.NAME, Kind.NAME);
                 case Token.SORT: return takeLeaf(Token.SORT, Kind.SORT);
                 case Token.REC: return begin(Rule.REC_ROW);
@@ -938,19 +942,20 @@ public final class TermReader {
         }
 
         private boolean expandMoreAtoms() {
-            if (here() == Token.ARROW) {
+            int token = tokens.nextKind();
+            if (token == Token.ARROW) {
                 return await(Rule.ARROW_ROW);
             }
-            return !Token.beginsAtom(here()) || await(Rule.MORE_ATOMS_ROW);
+            return !Token.beginsAtom(token) || await(Rule.MORE_ATOMS_ROW);
         }
 
         private boolean expandBracketEnd() {
-            if (here() == Token.COLON) {
-                return await(Rule.TYPED_ROW);
+            if (isNot(Token.COLON)) {
+                // Brackets around a term alone are no node: what was begun with them is forgotten.
+                begunCount--;
+                return await(Rule.CLOSE_ROW);
             }
-            // Brackets around a term alone are no node: what was begun with them is forgotten.
-            begunCount--;
-            return await(Rule.CLOSE_ROW);
+            return await(Rule.TYPED_ROW);
         }
 
         private boolean goDeeper() {
@@ -966,20 +971,24 @@ public final class TermReader {
             return true;
         }
 
+        private boolean isNot(int token) {
+            return tokens.nextKind() != token;
+        }
+
         private boolean takeToken(int token) {
-            if (here() != token) {
+            if (isNot(token)) {
                 return false;
             }
-            next++;
+            tokens.advance();
             return true;
         }
 
         private boolean takeLeaf(int token, int kind) {
-            if (here() != token
-                    || !growth.add(kind, tokens.placeAt(next), tokens.valueAt(next), growth.count)) {
+            if (isNot(token)
+                    || !growth.add(kind, tokens.nextPlace(), tokens.nextValue(), growth.count)) {
                 return false;
             }
-            next++;
+            tokens.advance();
             return true;
         }
 
@@ -988,7 +997,7 @@ public final class TermReader {
             if (begunCount < 0 || begunCount >= MOST_BEGUN) {
                 return false;
             }
-            begunPlaces[begunCount] = tokens.placeAt(next);
+            begunPlaces[begunCount] = tokens.nextPlace();
             begunFrom[begunCount] = growth.count;
             begunCount++;
             return await(row);
@@ -1114,9 +1123,8 @@ public final class TermReader {
                     || tree.isFirstPart(part)) {
                 return Token.END;
             }
-            int whole = tree.wholeOf(part);
             boolean last = tree.isLastPart(part);
-            switch (tree.kindOf(whole)) {
+            switch (tree.kindOf(tree.wholeOf(part))) {
                 case Kind.AXIOM:
                 case Kind.CONSTRUCTOR:
                 case Kind.CHECK:
@@ -1127,14 +1135,15 @@ public final class TermReader {
                 case Kind.DATA: return kind == Kind.CONSTRUCTOR ? Token.BAR : Token.COLON;
                 case Kind.FUN: return Token.YIELDS;
                 case Kind.ALL: return Token.COMMA;
-                case Kind.LET: return last ? Token.IN : tokenInLet(tree, whole, part);
+                case Kind.LET: return last ? Token.IN : tokenInLet(tree, part);
                 case Kind.ARROW: return Token.ARROW;
                 default: return Token.END;
             }
         }
 
-        private static int tokenInLet(Tree tree, int let, int part) {
-            return part == tree.partOf(let, 1) ? Token.COLON : Token.ASSIGN;
+        private static int tokenInLet(Tree tree, int part) {
+            // The type stands right behind the let and its binder.
+            return part == tree.wholeOf(part) + 2 ? Token.COLON : Token.ASSIGN;
         }
 
         private static boolean hasBrackets(Tree tree, int at, boolean alone) {

@@ -16,6 +16,7 @@ public final class FeedAndReadTest {
         faultsOfDeclarations();
         faultsOfTerms();
         faultsOfDepth();
+        faultsAreForgotten();
         CHECKS.end();
     }
 
@@ -127,7 +128,7 @@ public final class FeedAndReadTest {
 
     private static void fault(String text, int place) {
         TermReader reader = new TermReader();
-        Checks.read(reader, 0, text);
+        CHECKS.due("read " + text, Checks.read(reader, 0, text) != TermReader.NONE, true);
         CHECKS.due("fault of " + text, reader.fault(), place);
     }
 
@@ -307,5 +308,28 @@ public final class FeedAndReadTest {
         fault("norm " + "let a := b in ".repeat(500) + "c.", -1);
         fault("norm " + "a -> ".repeat(1500) + "(c).", -1);
         fault("norm " + "(a) ".repeat(1500) + ".", -1);
+        fault("norm " + "(".repeat(7000) + "a", 105);
+        // As much as can wait for its end in 8000 bytes.
+        fault("norm " + "a->".repeat(2664) + "b.", -1);
+        fault("norm " + "all a:b,".repeat(999) + "c.", -1);
+        String funs = "fun(a:".repeat(98) + "a b";
+        String rest = ")=>c".repeat(98);
+        fault("norm " + "a->".repeat(2330) + funs + rest + ".", -1);
+        fault("norm " + "all a:b,".repeat(870) + funs + rest + ".", -1);
+        fault("norm " + "a(".repeat(98) + "a->".repeat(2560) + "b" + ")".repeat(98) + ".", -1);
+    }
+
+    private static void faultsAreForgotten() {
+        TermReader reader = new TermReader();
+        for (int i = 0; i < 30; i++) {
+            CHECKS.due("read a deep fault", Checks.read(reader, 0, "norm " + "(".repeat(99) + "#"), 0);
+            CHECKS.due("the deep fault", reader.fault(), 104);
+        }
+        Checks.read(reader, 0, "norm " + "(".repeat(99) + "a" + ")".repeat(99) + ".");
+        CHECKS.due("no fault is left", reader.fault(), -1);
+        for (int i = 0; i < 20; i++) {
+            CHECKS.due("read a long fault", Checks.read(reader, 0, "norm " + "all a:b,".repeat(16) + "#"), 0);
+        }
+        CHECKS.due("the long fault", reader.fault(), 133);
     }
 }

@@ -8,6 +8,7 @@ public final class NamesTest {
         longestName();
         noSuchByte();
         mostNames();
+        knownNamesAreFound();
         againBringsNoNames();
         CHECKS.end();
     }
@@ -86,6 +87,36 @@ public final class NamesTest {
             CHECKS.due("names", reader.names(), known);
         }
         CHECKS.due("a last one", reader.node(0, reader.nodes(0) - 1, 2), known - 1);
+    }
+
+    /** So many names, of one to three bytes, that some are alike in whatever they are sought by. */
+    private static void knownNamesAreFound() {
+        String letters = "abcdefghijklmnopqrstuvwxyzABCDEFGHIJKLMNOPQRSTUVWXYZ_";
+        StringBuilder text = new StringBuilder("norm");
+        int known = 0;
+        for (int i = 0; i < 53; i++) {
+            char letter = letters.charAt(i);
+            text.append(' ').append(letter);
+            known++;
+            for (int j = 0; j < 15; j++) {
+                text.append(" ").append(letter).append(letters.charAt((i + 11 * j) % 53));
+                text.append(" A").append(letter).append(letters.charAt((7 * i + 5 * j) % 53));
+                known += 2;
+            }
+        }
+        text.append(".");
+        TermReader reader = new TermReader();
+        CHECKS.due("read names", Checks.read(reader, 0, text.toString()), 1);
+        CHECKS.due("names", reader.names(), known);
+        CHECKS.due("write them", reader.write(0, 1), text.length());
+        CHECKS.due("again", reader.again(), text.length());
+        CHECKS.due("read them", reader.read(1, text.length()), 1);
+        CHECKS.due("the same names", reader.names(), known);
+        CHECKS.due("the same tree", reader.same(), true);
+        int firstName = 2 + known - 1;
+        for (int i = 0; i < known; i += 29) {
+            CHECKS.due("number of name " + i, reader.node(1, firstName + i, 2), i);
+        }
     }
 
     private static void againBringsNoNames() {

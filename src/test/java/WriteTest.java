@@ -143,7 +143,11 @@ public final class WriteTest {
         reader = new TermReader();
         Checks.read(reader, 0, "norm a12345678->" + "a->".repeat(1596) + "b.");
         CHECKS.due("write 8000 bytes", reader.write(0, 1), 8000);
+        reader.write(0, 3);
         CHECKS.due("write 8001 bytes", reader.write(0, 0), -1);
+        CHECKS.due("8001 bytes change nothing", Checks.written(reader), "a12345678");
+        CHECKS.due("write 8000 bytes again", reader.write(0, 1), 8000);
+        CHECKS.due("write 8001 bytes again", reader.write(0, 0), -1);
         CHECKS.due("what was written stays", reader.again(), 8000);
         CHECKS.due("and is read", reader.read(1, 8000), 1);
         CHECKS.due("as the same", reader.same(), true);
