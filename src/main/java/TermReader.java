@@ -231,24 +231,25 @@ public final class TermReader {
 
     /** The rules of the grammar that take more than a token, and the rows of rules that they become. */
     private static final class Rule {
-        static final int DECLARATION = 30;
-        static final int GROUPS = 31;
-        static final int GROUP = 32;
-        static final int BINDERS = 33;
-        static final int BINDER = 34;
-        static final int MORE_BINDERS = 35;
-        static final int CONSTRUCTORS = 36;
-        static final int TYPE_OR_NOTHING = 37;
-        static final int TERM = 38;
-        static final int DEEPER_TERM = 39;
-        static final int RISE = 40;
-        static final int ATOM = 41;
-        static final int MORE_ATOMS = 42;
-        static final int JOIN_ATOMS = 43;
-        static final int JOIN_ARROW = 44;
-        static final int NAME = 45;
-        static final int SORT = 46;
-        static final int BRACKET_ENDS = 47;
+        /** Smaller numbers are tokens. */
+        static final int FIRST_RULE = 30;
+        static final int GROUPS = FIRST_RULE;
+        static final int GROUP = 31;
+        static final int BINDERS = 32;
+        static final int BINDER = 33;
+        static final int MORE_BINDERS = 34;
+        static final int CONSTRUCTORS = 35;
+        static final int TYPE_OR_NOTHING = 36;
+        static final int TERM = 37;
+        static final int DEEPER_TERM = 38;
+        static final int RISE = 39;
+        static final int ATOM = 40;
+        static final int MORE_ATOMS = 41;
+        static final int JOIN_ATOMS = 42;
+        static final int JOIN_ARROW = 43;
+        static final int NAME = 44;
+        static final int SORT = 45;
+        static final int BRACKET_ENDS = 46;
 
         /** FINISH and a kind: the node that was begun last is now whole, and of this kind. */
         static final int FINISH = 60;
@@ -839,6 +840,9 @@ public final class TermReader {
             waiting = new int[MOST_WAITING];
             begunPlaces = new int[MOST_BEGUN];
             begunFrom = new int[MOST_BEGUN];
+            waitingCount = 0;
+            begunCount = 0;
+            depth = 0;
         }
 
         /** Grows the tree of the declarations before the fault, and answers the fault's place. */
@@ -874,7 +878,7 @@ public final class TermReader {
             if (rule >= Rule.FINISH) {
                 return finish(rule - Rule.FINISH);
             }
-            if (rule < Rule.DECLARATION) {
+            if (rule < Rule.FIRST_RULE) {
                 return takeToken(rule);
             }
             switch (rule) {
