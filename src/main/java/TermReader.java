@@ -383,7 +383,7 @@ public final class TermReader {
         int numberOf(Bytes text, int from, int length) {
             int bucket = bucketOf(text, from, length);
             int name = newest[bucket] - 1;
-            for (int tried = 0; tried < count && name >= 0; tried++) {
+            for (int tried = 0; tried < count && name >= 0 && name < count; tried++) {
                 if (isSpelt(name, text, from, length)) {
                     return name;
                 }
@@ -630,12 +630,12 @@ public final class TermReader {
     private static final class Tree {
         static final int PARTS = 4;
 
-        final int[] kinds;
-        final int[] places;
-        final int[] values;
-        final int[] sizes;
-        final int[] partCounts;
-        final int[] wholes;
+        private final int[] kinds;
+        private final int[] places;
+        private final int[] values;
+        private final int[] sizes;
+        private final int[] partCounts;
+        private final int[] wholes;
         int count;
 
         Tree() {
@@ -654,6 +654,27 @@ public final class TermReader {
 
         boolean has(int k) {
             return k >= 0 && k < count;
+        }
+
+        /** Makes room for so many nodes, which are all still to be put. */
+        void makeRoom(int nodes) {
+            count = Math.min(nodes, MOST_NODES);
+        }
+
+        void put(int k, int kind, int place, int value, int size, int parts) {
+            if (has(k)) {
+                kinds[k] = kind;
+                places[k] = place;
+                values[k] = value;
+                sizes[k] = size;
+                partCounts[k] = parts;
+            }
+        }
+
+        void putWhole(int k, int whole) {
+            if (has(k)) {
+                wholes[k] = whole;
+            }
         }
 
         int kindOf(int k) {
@@ -698,11 +719,8 @@ public final class TermReader {
         }
 
         boolean isLastPart(int k) {
-            if (!has(k) || wholes[k] < 0) {
-                return false;
-            }
-            int whole = wholes[k];
-            return k + sizes[k] == whole + sizes[whole];
+            int whole = wholeOf(k);
+            return has(whole) && k + sizes[k] == whole + sizes[whole];
         }
 
         /** Gives the names their numbers, which have had their lengths as values till then. */
@@ -786,27 +804,21 @@ public final class TermReader {
             if (count == 0) {
                 return;
             }
-            tree.count = count;
-            tree.wholes[0] = NONE;
+            tree.makeRoom(count);
             numbers[count - 1] = 0;
             for (int from = count - 1; from >= 0; from--) {
-                int to = numbers[from];
-                tree.kinds[to] = kinds[from];
-                tree.places[to] = places[from];
-                tree.values[to] = values[from];
-                tree.sizes[to] = sizes[from];
-                tree.partCounts[to] = partCounts[from];
-                numberParts(from, tree.wholes);
+                tree.put(numbers[from], kinds[from], places[from], values[from], sizes[from], partCounts[from]);
+                numberParts(from, tree);
             }
         }
 
-        private void numberParts(int from, int[] wholes) {
+        private void numberParts(int from, Tree tree) {
             int part = from - 1;
             int behind = numbers[from] + sizes[from];
             for (int left = partCounts[from]; left > 0 && part >= 0; left--) {
                 behind -= sizes[part];
                 numbers[part] = behind;
-                wholes[behind] = numbers[from];
+                tree.putWhole(behind, numbers[from]);
                 part -= sizes[part];
             }
         }

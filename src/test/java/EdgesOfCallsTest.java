@@ -118,8 +118,18 @@ public final class EdgesOfCallsTest {
         CHECKS.due("read(0, 1)", new TermReader().read(0, 1), -1);
         CHECKS.due("names", new TermReader().names(), 0);
         CHECKS.due("spelt(0, 0)", new TermReader().spelt(0, 0), -1);
-        CHECKS.due("nodes of 0", new TermReader().nodes(0), 1);
-        CHECKS.due("nodes of 1", new TermReader().nodes(1), 1);
+        int[] emptyText = {0, -1, 0, 1, 0};
+        for (int tree = 0; tree <= 1; tree++) {
+            TermReader reader = new TermReader();
+            CHECKS.due("nodes(" + tree + ")", reader.nodes(tree), 1);
+            for (int what = 0; what < 5; what++) {
+                CHECKS.due("node(" + tree + ", 0, " + what + ")", reader.node(tree, 0, what), emptyText[what]);
+            }
+            CHECKS.due("node(" + tree + ", 1, 0)", reader.node(tree, 1, 0), -1);
+            CHECKS.due("part(" + tree + ", 0, 0)", reader.part(tree, 0, 0), -1);
+            CHECKS.due("whole(" + tree + ", 0)", reader.whole(tree, 0), -1);
+            CHECKS.due("write(" + tree + ", 0)", reader.write(tree, 0), 0);
+        }
         CHECKS.due("written(0)", new TermReader().written(0), -1);
         CHECKS.due("fault", new TermReader().fault(), -1);
         CHECKS.due("feed", new TermReader().feed(0, 0, 0, 0, 0), 20);
@@ -196,6 +206,17 @@ public final class EdgesOfCallsTest {
             Checks.feed(reader, "norm a. #");
             CHECKS.due("read(0, " + n + ")", reader.read(0, n), declarations[n]);
             CHECKS.due("fault of the first " + n, reader.fault(), faults[n]);
+        }
+        String[] signs = {"def a: b :=", "norm fun a: b =>", "norm a ->"};
+        int[] cutFaults = {9, 14, 7};
+        for (int i = 0; i < signs.length; i++) {
+            TermReader reader = new TermReader();
+            Checks.feed(reader, signs[i]);
+            reader.read(0, signs[i].length());
+            CHECKS.due("fault of " + signs[i], reader.fault(), signs[i].length());
+            Checks.feed(reader, signs[i]);
+            reader.read(0, signs[i].length() - 1);
+            CHECKS.due("fault of all but one byte of " + signs[i], reader.fault(), cutFaults[i]);
         }
         TermReader reader = new TermReader();
         Checks.feed(reader, "norm ab. norm cd'. ");
@@ -501,7 +522,7 @@ public final class EdgesOfCallsTest {
             CHECKS.due("its declaration", reader.write(0, 1), declaration ? bytes + 6 : -1);
             CHECKS.due("its last byte", reader.written(bytes + 5), declaration ? (int) '.' : -1);
             CHECKS.due("none behind it", reader.written(bytes + 6), -1);
-            reader.write(0, 3);
+            CHECKS.due("its first name, which is written also behind a refusal", reader.write(0, 3), before.length());
             CHECKS.due("its text", reader.write(0, 0), text ? bytes + 7 : -1);
             CHECKS.due("its last byte", reader.written(bytes + 6), text ? 10 : -1);
             if (!text) {

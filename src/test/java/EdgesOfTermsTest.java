@@ -337,6 +337,10 @@ public final class EdgesOfTermsTest {
                 1, -1);
         CHECKS.reads("norm " + deep + " " + deep + " -> " + deep + " -> " + deep + ".", 1, -1);
         CHECKS.reads("check " + deep + ": " + deep + ". norm " + deep + ".", 2, -1);
+        TermReader reader = Checks.readerOf("norm " + "(".repeat(99) + "#");
+        CHECKS.due("read behind a fault 100 deep", Checks.read(reader, 0, "norm " + deep + "."), 1);
+        CHECKS.due("read 101 deep behind it", Checks.read(reader, 0, "norm (" + deep + ")."), 0);
+        CHECKS.due("the fault", reader.fault(), 105);
     }
 
     private static void firstTokenAtFault() {
