@@ -15,6 +15,7 @@ public final class AnyCallsTest {
             }
         }
         manyNames();
+        shortestNames();
     }
 
     private static int any() {
@@ -60,6 +61,28 @@ public final class AnyCallsTest {
                 reader.read(1, 100);
                 reader.same();
             }
+        }
+    }
+
+    /** As many names as there is room for, and more: all of one and two bytes, and some of three. */
+    private static void shortestNames() {
+        String letters = "abcdefghijklmnopqrstuvwxyzABCDEFGHIJKLMNOPQRSTUVWXYZ_";
+        String others = letters + "0123456789'";
+        TermReader reader = new TermReader();
+        int next = 0;
+        for (int text = 0; text < 3; text++) {
+            StringBuilder names = new StringBuilder("norm");
+            for (; names.length() < 7900; next++) {
+                String name = "" + letters.charAt(next % 53);
+                for (int rest = next / 53; rest > 0; rest /= 64) {
+                    name += others.charAt((rest - 1) % 64);
+                }
+                names.append(' ').append(name.equals("in") ? "in'" : name);
+            }
+            Checks.read(reader, text & 1, names.append('.').toString());
+            reader.write(text & 1, 0);
+            reader.spelt(reader.names() - 1, 0);
+            reader.spelt(reader.names(), 0);
         }
     }
 }
