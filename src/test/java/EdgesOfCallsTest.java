@@ -195,6 +195,15 @@ public final class EdgesOfCallsTest {
         CHECKS.due("the last one is the fault", reader.fault(), 7997);
         CHECKS.due("the names", Checks.allNames(reader), "a bcde");
         CHECKS.due("feed again", reader.feed(0, 0, 0, 0, 0), 20);
+        reader = Checks.readerOf("norm a b. #");
+        Checks.read(reader, 1, "check c: d. axiom )");
+        reader.write(0, 1);
+        for (int i = 0; i < 400; i++) {
+            reader.feed(0, 0, 0, 0, 0);
+        }
+        String before = Checks.state(reader);
+        CHECKS.due("feed behind 8000", reader.feed(0x6e6f726d, 0x20617a7a, 0x2e202020, 0, 0), -1);
+        CHECKS.due("state", Checks.state(reader), before);
     }
 
     private static void readFirstBytes() {
@@ -497,6 +506,7 @@ public final class EdgesOfCallsTest {
         CHECKS.about("NONE, what was written before staying, when there is no such node");
         TermReader reader = Checks.readerOf("check a.");
         reader.write(0, 1);
+        Checks.feed(reader, "norm b. norm c.");
         for (int k : new int[] {LOW, -1, 4, 5, 8001, HIGH}) {
             CHECKS.due("write(0, " + k + ")", reader.write(0, k), -1);
             CHECKS.due("what was written", Checks.written(reader), "check a.");
@@ -507,6 +517,7 @@ public final class EdgesOfCallsTest {
         }
         CHECKS.due("write(1, 1)", reader.write(1, 1), -1);
         CHECKS.due("write(0, 3), the last one", reader.write(0, 3), 0);
+        CHECKS.due("the bytes stay", reader.read(1, 15), 2);
     }
 
     private static void writeBeyond8000() {
